@@ -23,6 +23,8 @@ public final class Bagatelle {
     private static final int[] LEAST_CHOICE = {1, 0, 0};
     private static final int[] GREATEST_CHOICE = {9, 23, 3};
 
+    private static final int[] DIGEST_TICKS = {0, 6, 13, 23};
+
     private static final int FORCES = 9;
     private static final int NO_BALL = 12;
     private static final int SIXTEENTHS = 16;
@@ -289,21 +291,21 @@ public final class Bagatelle {
         if (!within(ball, board.ballCount) || !within(what, 2)) {
             return BAD;
         }
-        return searchedFor(HARD, ball, what);
+        return bestChoice(HARD, ball, what);
     }
 
     public int time(int ball, int what) {
         if (!within(ball, board.ballCount) || !within(what, 2)) {
             return BAD;
         }
-        return searchedFor(TICK, ball, what);
+        return bestChoice(TICK, ball, what);
     }
 
     public int bend(int pin, int what) {
         if (!within(pin, board.pinCount) || !within(what, 2)) {
             return BAD;
         }
-        return searchedFor(SORT, pin, what);
+        return bestChoice(SORT, pin, what);
     }
 
     public int spare(int i) {
@@ -549,7 +551,18 @@ public final class Bagatelle {
         for (int ball = 0; ball < board.ballCount; ball++) {
             h = withBall(h, ball);
         }
-        return withSums(h);
+        for (int what = 0; what < 3; what++) {
+            h = 31 * h + sum(what);
+        }
+        h = 31 * h + late();
+        h = 31 * h + best();
+        h = 31 * h + jam(0);
+        h = 31 * h + jam(1);
+        h = 31 * h + spare(NONE);
+        h = 31 * h + spare(0);
+        h = 31 * h + never();
+        h = 31 * h + sundays(7, 9, 0);
+        return 31 * h + sundays(7, 9, 1);
     }
 
     private long withPin(long before, int pin) {
@@ -566,10 +579,10 @@ public final class Bagatelle {
         long h = before;
         h = 31 * h + ball(ball, 0);
         h = 31 * h + ball(ball, 1);
-        h = withPlace(h, 0, ball);
-        h = withPlace(h, 6, ball);
-        h = withPlace(h, 13, ball);
-        h = withPlace(h, 23, ball);
+        for (int i = 0; i < DIGEST_TICKS.length; i++) {
+            h = 31 * h + at(DIGEST_TICKS[i], ball, 0);
+            h = 31 * h + at(DIGEST_TICKS[i], ball, 1);
+        }
         for (int what = 0; what < 3; what++) {
             h = 31 * h + ends(ball, what);
         }
@@ -581,27 +594,6 @@ public final class Bagatelle {
         h = 31 * h + ask(ball);
         h = 31 * h + chance(5, ball, 0);
         return 31 * h + chance(5, ball, 1);
-    }
-
-    private long withPlace(long before, int tick, int ball) {
-        long h = 31 * before + at(tick, ball, 0);
-        return 31 * h + at(tick, ball, 1);
-    }
-
-    private long withSums(long before) {
-        long h = before;
-        for (int what = 0; what < 3; what++) {
-            h = 31 * h + sum(what);
-        }
-        h = 31 * h + late();
-        h = 31 * h + best();
-        h = 31 * h + jam(0);
-        h = 31 * h + jam(1);
-        h = 31 * h + spare(NONE);
-        h = 31 * h + spare(0);
-        h = 31 * h + never();
-        h = 31 * h + sundays(7, 9, 0);
-        return 31 * h + sundays(7, 9, 1);
     }
 
     private static boolean within(int number, int bound) {
@@ -647,30 +639,27 @@ public final class Bagatelle {
         }
     }
 
-    private int searchedFor(int thing, int number, int what) {
+    /** The choice by which the score is most (what = 0), or that score. */
+    private int bestChoice(int thing, int number, int what) {
         int search = thing * MOST + number;
         if (searched != search) {
-            findBestChoice(thing, number);
             searched = search;
+            chosenScore = NONE;
+            tried.takeTold();
+            for (int choice = LEAST_CHOICE[thing]; choice <= GREATEST_CHOICE[thing]; choice++) {
+                tried.choose(thing, number, choice);
+                tried.run();
+                int score = tried.score();
+                if (score > chosenScore) {
+                    chosen = choice;
+                    chosenScore = score;
+                }
+            }
         }
         return what == 0 ? chosen : chosenScore;
     }
 
-    private void findBestChoice(int thing, int number) {
-        tried.takeTold();
-        chosen = NONE;
-        chosenScore = NONE;
-        for (int choice = LEAST_CHOICE[thing]; choice <= GREATEST_CHOICE[thing]; choice++) {
-            tried.choose(thing, number, choice);
-            tried.run();
-            int score = tried.score();
-            if (score > chosenScore) {
-                chosen = choice;
-                chosenScore = score;
-            }
-        }
-    }
-
+    /** The choices by which all that was seen comes out so, as bits. */
     private int agreeing(int thing, int number) {
         tried.takeTold();
         int bits = 0;
@@ -1114,7 +1103,7 @@ public final class Bagatelle {
                 return column;
             }
             int to = column + ways[pin];
-            return within(to, COLUMNS) ? to : column;
+            return to < 0 || to >= COLUMNS ? column : to;
         }
 
         private void pass(int pin, int ball) {

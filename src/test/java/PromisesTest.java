@@ -159,7 +159,14 @@ public final class PromisesTest {
         }
         faultDue(2, TWELVE_BALLS, NONE);
         faultDue(2, TWELVE_BALLS.substring(0, 33), 33);
-        Bagatelle x = told("00l;", "12x", "a1;");
+        Bagatelle x = told("00l;11r", "12", "a1;b1");
+        for (int text = 0; text < 3; text++) {
+            x.wipe(text);
+            due(3, "an empty one is well", x.fault(text), NONE);
+        }
+        due(3, "no pins", x.count(0), 0);
+        due(3, "no balls", x.count(1), 0);
+        x = told("00l;", "12x", "a1;");
         due(5, "with a fault no pins", x.count(0), 0);
         due(5, "with a fault no balls", x.count(1), 0);
         due(5, "with a fault no cups", x.cup(0, 0), 0);
@@ -250,6 +257,13 @@ public final class PromisesTest {
         due(12, "two events", x.count(3), 2);
         x.back();
         due(12, "the first one was the knock", x.at(2, 0, 1), 5);
+        Bagatelle third = told("04l;14l", "", "a5;b5");
+        lay(third, 0, 1, 2, 9, 0, 2, 9, 0, 1, 2, 1);
+        due(12, "three", third.read(0), 3);
+        due(12, "the third one is a knock of the second pin", third.at(2, 1, 1), 3);
+        third.wipe(0);
+        typed(third, 0, "24r;04l");
+        due(12, "which is another one now", third.at(2, 1, 1), 5);
         x.back();
         for (int form = 0; form < 3; form++) {
             lay(x, 1, form, 1, 1, 0, 0, 24, 0, 0, 0, 0);
@@ -279,6 +293,8 @@ public final class PromisesTest {
             due(13, "column", x.at(tick, 0, 1), 2);
             due(14, "who", x.sees(tick, tick - 2, 2), 0);
         }
+        due(14, "who comes in first of all calls", told("", "", "a1;a9").sees(0, 0, 8), 1);
+        due(13, "the first cell", told("", "", "a1").at(0, 0, 1), 0);
         due(14, "not above", x.sees(5, 2, 2), NONE);
         due(14, "not beside", x.sees(5, 3, 3), NONE);
         due(13, "in a cup", x.at(10, 0, 0), 8);
@@ -375,6 +391,13 @@ public final class PromisesTest {
         Bagatelle low = told("73r", "000030000", "a4;a5");
         due(15, "none is held at the bottom", low.ends(1, 2), 0);
         due(7, "both in", low.cup(4, 1), 2);
+        Bagatelle lowest = told("63r", "", "a4;a5");
+        due(15, "held above the lowest row", lowest.ends(1, 2), 1);
+        lowest.wipe(0);
+        due(15, "not held any more", lowest.ends(1, 2), 0);
+        due(19, "no jam any more", lowest.jam(1), 0);
+        Bagatelle first = told("03r", "", "a4;a5");
+        due(19, "the first tick that may be", first.jam(0), 1);
         Bagatelle chain = told("13r", "", "a4;a5;b5");
         due(13, "one behind the one that is held", chain.at(2, 2, 0), 0);
         due(15, "is held by it", chain.ends(2, 2), 1);
@@ -498,6 +521,9 @@ public final class PromisesTest {
         due(17, "not late", x.late(), 0);
         due(7, "in the cup", x.cup(4, 1), 2);
         due(7, "ever", x.cup(4, 2), 2);
+        Bagatelle ahead = told("", "", "b1;a1");
+        ahead.room(1);
+        due(16, "ball 0 is lost", ahead.sum(2), 1);
         Bagatelle bell = told("74b", "000090000", "a5;b5;c5");
         due(15, "the gutter brings nothing but the ring", bell.ends(2, 0), 2);
     }
@@ -514,6 +540,11 @@ public final class PromisesTest {
         due(18, "none anything", told("", "", "a1").best(), NONE);
         due(18, "no ball", told("04b", "9", "").best(), NONE);
         due(18, "the only one", told("", "9", "a2;a1").best(), 1);
+        due(18, "the least that may be", told("", "1", "a2;a1").best(), 1);
+        due(16, "score", told("", "01", "a2;a1").sum(0), 1);
+        due(17, "late", told("", "", "a2;x1").late(), 2);
+        x.wipe(0);
+        due(16, "no rings any more", x.sum(1), 0);
         due(19, "bad", x.jam(-1), BAD);
         due(19, "bad", x.jam(2), BAD);
         due(19, "no jam", x.jam(0), 0);
@@ -620,6 +651,12 @@ public final class PromisesTest {
         Bagatelle never = told("", "", "a1;a1;a1");
         never.event(0, 3, 1);
         sparesDue("in vain", never, NONE, NONE, NONE);
+        Bagatelle single = told("73l", "", "a4;a5");
+        single.room(1);
+        single.event(1, 2, 0);
+        sparesDue("the only one", single, 1, 0, NONE);
+        single.room(2);
+        sparesDue("with more room", single, 0, NONE, NONE);
         due(23, "bad", x.spare(-2), BAD);
         due(23, "bad", x.spare(2), BAD);
         Bagatelle thrice = told("71l;74l;77l", "", "a2;a3;a5;a6;a8;a9");
@@ -662,6 +699,10 @@ public final class PromisesTest {
         due(27, "no such ball", x.forces(0), 0);
         due(28, "no such ball", x.kind(0), 0);
         x.forget();
+        Bagatelle later = told("24l", "", "d5");
+        later.seen(6, 3, 3, 0);
+        due(27, "a tick unlike the row", later.forces(0), 32 | 16);
+        due(28, "a tick unlike the row", later.kind(0), 5);
         due(27, "bad", x.forces(1), BAD);
         due(27, "bad", x.forces(-1), BAD);
         due(28, "bad", x.kind(1), BAD);
@@ -704,6 +745,13 @@ public final class PromisesTest {
         due(29, "of those by which it waits there is one", wait.ask(1), 0);
         Bagatelle last = told("", "", "x5");
         due(29, "the last tick", last.ask(0), 23);
+        Bagatelle blocked = told("01l;07r", "", "a2;a1;a8;a9;b5");
+        due(29, "those that wait are alike, 1 and 9", blocked.ask(4), 2);
+        blocked.seen(2, 0, 8, 12);
+        due(29, "9 was not, so 1 waits alone", blocked.ask(4), 1);
+        blocked.forget();
+        blocked.seen(2, 0, 0, 12);
+        due(29, "1 was not, so 9 waits alone", blocked.ask(4), 1);
         Bagatelle other = told("", "", "a1;a2;a3;a4;a5;a6;a7;a8;a9;d3;a1;f4");
         due(29, "the last ball of twelve", other.ask(11), 5);
         due(29, "the first of twelve", other.ask(0), 0);
@@ -732,6 +780,7 @@ public final class PromisesTest {
         chanceDue("an even number of eight", x, 8, 0, 1, 2);
         // (1 + (6/16)^8) / 2 = (8^8 + 3^8) / (2 * 8^8)
         chanceDue("an even number of eight", x, 5, 0, (16777216L + 6561L), 33554432L);
+        chanceDue("the least that may be brought", told("", "1", "a1"), 3, 0, 1, 1);
         Bagatelle rings = told("04b", "", "a5");
         rings.event(0, 1, 1);
         chanceDue("rings bring, too", rings, 1, 0, 15, 16);
@@ -916,6 +965,8 @@ public final class PromisesTest {
         for (int what = 0; what < counts.length; what++) {
             due(38, "count " + what, x.count(what), counts[what]);
         }
+        due(38, "on the board, first of all calls", told("", "", "a1;x1").count(6), 1);
+        due(38, "score, first of all calls", told("", "3", "a1;x1").count(4), 3);
         due(38, "bad", x.count(-1), BAD);
         due(38, "bad", x.count(9), BAD);
     }
@@ -925,13 +976,14 @@ public final class PromisesTest {
             {"", "", ""},
             {"04t;13l;15r;24b;33t;42r", "123454321", "a5;a5;b4;c6;e1;e9;x5"},
             {"00t;73r;75l", "909090909", TWELVE_BALLS},
-            {"13r;14b", "12", "a4;a5;b5;b4"}};
+            {"44l;14b", "12", "a4;a5;b5;b4"},
+            {"73l;75r;44t", "987654321", "a4;a5;a6"}};
         for (String[] b : boards) {
             Bagatelle x = told(b[0], b[1], b[2]);
             digestDue("as told", x);
             x.room(1);
             x.event(0, 3, 1);
-            x.event(1, 2, 0);
+            x.event(1, 4, 0);
             x.event(2, 10, 4);
             x.seen(3, 3, 4, 12);
             digestDue("with events and one seen", x);
