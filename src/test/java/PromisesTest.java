@@ -64,6 +64,7 @@ public final class PromisesTest {
         writing();
         counts();
         digests();
+        digestOfSpares();
         System.out.println(asked - wrong + " answers of " + asked + " as due");
         System.exit(wrong == 0 ? 0 : 1);
     }
@@ -261,6 +262,10 @@ public final class PromisesTest {
         lay(third, 0, 1, 2, 9, 0, 2, 9, 0, 1, 2, 1);
         due(12, "three", third.read(0), 3);
         due(12, "the third one is a knock of the second pin", third.at(2, 1, 1), 3);
+        Bagatelle numbers = told("04l;14l;24l", "", "a5");
+        lay(numbers, 0, 2, 2, 9, 0, 1, 1, 0);
+        due(12, "two", numbers.read(0), 2);
+        due(12, "the second one is a knock of pin 0", numbers.at(1, 0, 1), 5);
         third.wipe(0);
         typed(third, 0, "24r;04l");
         due(12, "which is another one now", third.at(2, 1, 1), 5);
@@ -635,6 +640,7 @@ public final class PromisesTest {
     }
 
     private static void sparing() {
+        sparesDue("a new object", new Bagatelle(), 0, NONE, NONE);
         Bagatelle x = told("73l;75r", "", "a4;a5;a6");
         x.room(1);
         sparesDue("none is lost", x, 0, NONE, NONE);
@@ -992,6 +998,13 @@ public final class PromisesTest {
             x.lay(0, 0, 0, 0);
             due(39, "twice alike", x.digest(), before);
         }
+    }
+
+    private static void digestOfSpares() {
+        Bagatelle x = told("73l", "5", "a4;a5");
+        x.room(1);
+        x.event(1, 2, 0);
+        digestDue("one had better not be", x);
     }
 
     private static void digestDue(String what, Bagatelle x) {
