@@ -1,5 +1,7 @@
 import java.lang.reflect.InvocationTargetException;
 import java.lang.reflect.Method;
+import java.util.ArrayList;
+import java.util.List;
 
 /** What digest() is told to be, made from the other calls alone. */
 public final class Digests {
@@ -9,13 +11,22 @@ public final class Digests {
     }
 
     private final Caller on;
-    private long h = 17;
+    private final List<Long> terms = new ArrayList<>();
 
     private Digests(Caller on) {
         this.on = on;
     }
 
     public static long of(Caller on) {
+        long h = 17;
+        for (long term : terms(on)) {
+            h = 31 * h + term;
+        }
+        return h;
+    }
+
+    /** All that comes into it, in its order. */
+    public static List<Long> terms(Caller on) {
         Digests d = new Digests(on);
         d.addBoard();
         for (int pin = 0; pin < on.call("count", 0); pin++) {
@@ -25,11 +36,11 @@ public final class Digests {
             d.addBall(ball);
         }
         d.addSums();
-        return d.h;
+        return d.terms;
     }
 
     private void add(String name, int... args) {
-        h = 31 * h + on.call(name, args);
+        terms.add(on.call(name, args));
     }
 
     private void addBoard() {

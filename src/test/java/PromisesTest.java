@@ -1,38 +1,5 @@
 /** Each promise of the document by cases worked out by hand: ordinary ones, edges, refusals. */
-public final class PromisesTest {
-    private static final int NONE = Bagatelle.NONE, BAD = Bagatelle.BAD, NOT = Bagatelle.NOT, FULL = Bagatelle.FULL;
-    private static final int NULL = -11, INDEX = -12, CAST = -13, STORE = -14, SIZE = -15;
-    private static final int LEAST = Integer.MIN_VALUE;
-    private static final int MANY = Integer.MAX_VALUE;
-    private static final long LONG_BAD = Long.MIN_VALUE + 2;
-    private static final String TWELVE_PINS = "00l;01l;02l;03l;04l;05l;06l;07l;08l;10l;11l;12l";
-    private static final String TWELVE_BALLS = "a1;a2;a3;a4;a5;a6;a7;a8;a9;b1;b2;b3";
-
-    private static int asked = 0;
-    private static int wrong = 0;
-
-    private static void due(int promise, String what, long got, long want) {
-        asked++;
-        if (got != want) {
-            wrong++;
-            System.out.println("promise " + promise + ", " + what + ": answered " + got + ", due is " + want);
-        }
-    }
-
-    private static Bagatelle told(String pins, String cups, String balls) {
-        Bagatelle x = new Bagatelle();
-        typed(x, 0, pins);
-        typed(x, 1, cups);
-        typed(x, 2, balls);
-        return x;
-    }
-
-    private static void typed(Bagatelle x, int text, String bytes) {
-        for (char b : bytes.toCharArray()) {
-            x.type(text, b);
-        }
-    }
-
+public final class PromisesTest extends Asked {
     public static void main(String[] args) {
         newObject();
         texts();
@@ -65,8 +32,7 @@ public final class PromisesTest {
         counts();
         digests();
         digestOfSpares();
-        System.out.println(asked - wrong + " answers of " + asked + " as due");
-        System.exit(wrong == 0 ? 0 : 1);
+        finish();
     }
 
     private static void newObject() {
@@ -237,13 +203,6 @@ public final class PromisesTest {
         due(11, "knocked", y.at(2, 0, 1), 5);
         y.back();
         due(11, "not knocked", y.at(2, 0, 1), 3);
-    }
-
-    private static void lay(Bagatelle x, int s, int form, int... items) {
-        x.sheet(s, form, items.length);
-        for (int i = 0; i < items.length; i++) {
-            x.lay(s, form, i, items[i]);
-        }
     }
 
     private static void reading() {
