@@ -12,6 +12,7 @@ class Asked {
     static final int LEAST = Integer.MIN_VALUE, MANY = Integer.MAX_VALUE;
     static final long LONG_BAD = Long.MIN_VALUE + 2;
     static final String TWELVE_PINS = "00l;01l;02l;03l;04l;05l;06l;07l;08l;10l;11l;12l";
+    static final String TWELVE_ALIKE = "a1;a1;a1;a1;a1;a1;a1;a1;a1;a1;a1;a1";
     static final String TWELVE_BALLS = "a1;a2;a3;a4;a5;a6;a7;a8;a9;b1;b2;b3";
 
     private static int asked = 0;

@@ -5,7 +5,7 @@ import java.util.TreeSet;
 public final class BoundsTest extends Asked {
     private static final int PROMISES = 39;
     private static final Class<?>[] CASES = {TextBounds.class, EventBounds.class, TickBounds.class,
-        PlanBounds.class, SeenBounds.class, SheetBounds.class};
+        PlanBounds.class, SeenBounds.class, SheetBounds.class, OrderBounds.class};
 
     public static void main(String[] args) {
         Set<Integer> promises = new TreeSet<>();

@@ -1,7 +1,6 @@
 /** The bounds that the document names for plans: promises 20 to 23. */
 final class PlanBounds extends Refused {
     private static final int TILT = 0, KNOCK = 1, EMPTY = 2;
-    private static final String TWELVE_ALIKE = "a1;a1;a1;a1;a1;a1;a1;a1;a1;a1;a1;a1";
 
     private static void shootDue(String what, Bagatelle x, int ball, int hard, int score) {
         due(what + ": which", x.shoot(ball, 0), hard);
@@ -279,6 +278,15 @@ final class PlanBounds extends Refused {
             x.event(TILT, 20, 0);
         }
         spareDue("eight events", x, NONE, NONE, NONE);
+    }
+
+    static void promise23FewerThanAheadOfIt() {
+        Bagatelle x = pairs(0, 1);
+        spareDue("two", x, 2, 0, 1);
+        x.back();
+        spareDue("one", x, 1, 0, NONE);
+        x.back();
+        spareDue("none", x, 0, NONE, NONE);
     }
 
     static void promise23AnswersAnew() {

@@ -299,6 +299,13 @@ final class SeenBounds extends Refused {
         due("another one tells", told("02t", "", "b9;c3;b4;b2").ask(3), 3);
     }
 
+    static void promise29EachBallOfTwelve() {
+        for (int ball = 0; ball < 12; ball++) {
+            String balls = TWELVE_ALIKE.substring(0, 3 * ball) + "x5" + TWELVE_ALIKE.substring(3 * ball + 2);
+            due("ball " + ball, told("", "", balls).ask(ball), 23);
+        }
+    }
+
     static void promise29NeverIn() {
         Bagatelle x = told("", "", "x1;x2;x3;x4;x5;x6;x7;x8;x9;x5");
         due("it never comes in", x.ask(9), 0);

@@ -604,7 +604,7 @@ final class TextBounds extends Refused {
 
     static void promise09TheLastThatFindsRoom() {
         for (int room = 1; room <= 9; room++) {
-            Bagatelle x = told("", "1", "a1;a1;a1;a1;a1;a1;a1;a1;a1;a1;a1;a1");
+            Bagatelle x = told("", "1", TWELVE_ALIKE);
             x.room(room);
             due("the last one with room " + room, x.at(23, room - 1, 0), 8);
             due("the next one", x.at(23, room, 0), 9);

@@ -339,7 +339,7 @@ final class TickBounds extends Refused {
     }
 
     static void promise16TwelveBalls() {
-        Bagatelle x = told("00b", "999999999", "a1;a1;a1;a1;a1;a1;a1;a1;a1;a1;a1;a1");
+        Bagatelle x = told("00b", "999999999", TWELVE_ALIKE);
         sumsDue(x, 2 * 12 + 2 * 9, 12, 10);
         x.room(9);
         sumsDue(x, 2 * 12 + 9 * 9, 12, 3);
