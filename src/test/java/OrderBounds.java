@@ -1,7 +1,8 @@
 import java.util.Arrays;
+import java.util.function.Consumer;
 import java.util.function.Supplier;
 
-/** What is asked first, or behind any other question, is answered alike: promises 5 to 8, 13 to 31, 38, 39. */
+/** What is asked first, behind another question, or behind something told anew, is answered as if it alone was asked. */
 final class OrderBounds extends Refused {
     private static final String[] QUESTIONS = {"fault 0", "pin 2 2", "cup 4 1", "ball 2 0", "at 23 1 0", "sees 9 8 4",
         "ends 1 0", "sum 2", "late", "best", "jam 1", "shoot 0 0", "shoot 2 1", "time 0 0", "time 2 1", "bend 0 0",
@@ -39,6 +40,70 @@ final class OrderBounds extends Refused {
                 due(call + ", asked again", ask(x, question), answer);
             }
         }
+    }
+
+    /** What was asked ahead of an act leaves no trace in what is answered behind it. */
+    private static void anew(Consumer<Bagatelle> act) {
+        for (int part = 0; part < PARTS; part++) {
+            Bagatelle x = busy();
+            for (String question : QUESTIONS) {
+                ask(x, question);
+            }
+            Bagatelle fresh = busy();
+            act.accept(x);
+            act.accept(fresh);
+            dueTrue("answered anew in part " + part, probe(x, part).equals(probe(fresh, part)));
+        }
+    }
+
+    static void promise02AnswersAnew() {
+        anew(x -> typed(x, 0, ";04l"));
+        anew(x -> x.type(0, ';'));
+        anew(x -> typed(x, 2, ";a9"));
+        anew(x -> x.type(2, ';'));
+        anew(x -> {
+            x.undo(1);
+            x.type(1, '!');
+        });
+    }
+
+    static void promise03AnswersAnew() {
+        anew(x -> x.wipe(0));
+        anew(x -> x.wipe(1));
+        anew(x -> x.wipe(2));
+    }
+
+    static void promise04AnswersAnew() {
+        for (int text = 0; text < 3; text++) {
+            int undone = text;
+            anew(x -> x.undo(undone));
+        }
+    }
+
+    static void promise09AnswersAnew() {
+        anew(x -> x.room(9));
+    }
+
+    static void promise10AnswersAnew() {
+        anew(x -> x.event(0, 2, 0));
+        anew(x -> x.event(1, 2, 0));
+        anew(x -> x.event(2, 9, 4));
+    }
+
+    static void promise11AnswersAnew() {
+        anew(Bagatelle::back);
+    }
+
+    static void promise12AnswersAnew() {
+        anew(x -> lay(x, 0, 0, 1, 2, 0, 0, 5, 1).read(0));
+    }
+
+    static void promise24AnswersAnew() {
+        anew(x -> x.seen(1, 1, 4, 1));
+    }
+
+    static void promise25AnswersAnew() {
+        anew(Bagatelle::forget);
     }
 
     static void promise05AskedFirst() {

@@ -5,7 +5,7 @@ import java.util.function.Supplier;
 
 /** Asks for a refusal, and holds the object against one that was never asked: nothing else may differ. */
 class Refused extends Asked {
-    private static final int PARTS = 3;
+    static final int PARTS = 3;
 
     /** A board with a little of everything; sheet 0 is LOST, 1 to 3 have 3 bytes, 4 shorts, 5 ints. */
     static Bagatelle plain() {
@@ -96,7 +96,7 @@ class Refused extends Asked {
     }
 
     /** All that can be heard of an object, in parts, each within the 512 calls that it may be used for. */
-    private static List<Long> probe(Bagatelle x, int part) {
+    static List<Long> probe(Bagatelle x, int part) {
         List<Long> heard = new ArrayList<>();
         if (part == 0) {
             hearBoard(x, heard);

@@ -297,6 +297,7 @@ final class SeenBounds extends Refused {
     /** By 2 and by 3 ball 3 goes the same way; that the pin has turned by 3 alone is told by ball 1, in TICK 3. */
     static void promise29AllBallsCount() {
         due("another one tells", told("02t", "", "b9;c3;b4;b2").ask(3), 3);
+        due("the greatest number is of the last ones", told("06t", "", "b9;c7;b8;b2").ask(3), 3);
     }
 
     static void promise29EachBallOfTwelve() {

@@ -591,7 +591,7 @@ final class SheetBounds extends Refused {
         List<Bagatelle> boards = new ArrayList<>(List.of(new Bagatelle(), plain(), full(), OrderBounds.busy()));
         String[][] told = {{"04t;13l;15r;24b;33t;42r", "123454321", "a5;a5;b4;c6;e1;e9;x5"},
             {"73l;75r;44t", "987654321", "a4;a5;a6;d1;h2;m3;r4;w5"},
-            {"00t;73r;75l", "909090909", TWELVE_ALIKE}, {"73l", "5", "a4;a5"}, {"70r;72l", "", "a1"}};
+            {"00t;73r;75l", "909090909", TWELVE_ALIKE}, {"73l", "5", "a4;a5"}, {"00b;70r;72l", "", "a1"}};
         for (String[] board : told) {
             for (int room = 1; room <= 3; room++) {
                 Bagatelle x = told(board[0], board[1], board[2]);

@@ -345,6 +345,18 @@ final class TickBounds extends Refused {
         sumsDue(x, 2 * 12 + 9 * 9, 12, 3);
     }
 
+    static void promise16EachMayBeLost() {
+        for (int ball = 0; ball < 12; ball++) {
+            Bagatelle x = told("", "", TWELVE_ALIKE.substring(0, 3 * ball) + "o1" + TWELVE_ALIKE.substring(3 * ball + 2));
+            x.room(9);
+            x.event(2, 20, 0);
+            sumsDue(x, 0, 0, 2);
+            x.back();
+            sumsDue(x, 0, 0, 3);
+            due("ball " + ball, x.at(23, ball, 0), 9);
+        }
+    }
+
     static void promise16TheLastTick() {
         sumsDue(told("00b", "9", "p1;q1;w1;x1"), 9 + 3 * 2, 3, 0);
     }
