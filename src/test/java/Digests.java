@@ -2,6 +2,7 @@ import java.lang.reflect.InvocationTargetException;
 import java.lang.reflect.Method;
 import java.util.ArrayList;
 import java.util.List;
+import java.util.function.Supplier;
 
 /** What digest() is told to be, made from the other calls alone. */
 public final class Digests {
@@ -104,6 +105,11 @@ public final class Digests {
         add("never");
         add("sundays", 7, 9, 0);
         add("sundays", 7, 9, 1);
+    }
+
+    /** Asks an object of its own each time, as one that is told much may not be asked for all within its 512 calls. */
+    public static Caller each(Supplier<?> state) {
+        return (name, args) -> call(state.get(), name, args);
     }
 
     /** Calls a method of any object by its name. */

@@ -1,3 +1,5 @@
+import java.util.function.Supplier;
+
 /** Each promise of the document by cases worked out by hand: ordinary ones, edges, refusals. */
 public final class PromisesTest extends Asked {
     public static void main(String[] args) {
@@ -944,14 +946,9 @@ public final class PromisesTest extends Asked {
             {"44l;14b", "12", "a4;a5;b5;b4"},
             {"73l;75r;44t", "987654321", "a4;a5;a6"}};
         for (String[] b : boards) {
-            Bagatelle x = told(b[0], b[1], b[2]);
-            digestDue("as told", x);
-            x.room(1);
-            x.event(0, 3, 1);
-            x.event(1, 4, 0);
-            x.event(2, 10, 4);
-            x.seen(3, 3, 4, 12);
-            digestDue("with events and one seen", x);
+            digestDue("as told", () -> told(b[0], b[1], b[2]));
+            digestDue("with events and one seen", () -> withEvents(b));
+            Bagatelle x = withEvents(b);
             x.lose(0);
             long before = x.digest();
             x.lay(0, 0, 0, 0);
@@ -959,15 +956,26 @@ public final class PromisesTest extends Asked {
         }
     }
 
-    private static void digestOfSpares() {
-        Bagatelle x = told("73l", "5", "a4;a5");
+    private static Bagatelle withEvents(String[] board) {
+        Bagatelle x = told(board[0], board[1], board[2]);
         x.room(1);
-        x.event(1, 2, 0);
-        digestDue("one had better not be", x);
+        x.event(0, 3, 1);
+        x.event(1, 4, 0);
+        x.event(2, 10, 4);
+        x.seen(3, 3, 4, 12);
+        return x;
     }
 
-    private static void digestDue(String what, Bagatelle x) {
-        long want = Digests.of((name, args) -> Digests.call(x, name, args));
-        due(39, what, x.digest(), want);
+    private static void digestOfSpares() {
+        digestDue("one had better not be", () -> {
+            Bagatelle x = told("73l", "5", "a4;a5");
+            x.room(1);
+            x.event(1, 2, 0);
+            return x;
+        });
+    }
+
+    private static void digestDue(String what, Supplier<Bagatelle> state) {
+        due(39, what, state.get().digest(), Digests.of(Digests.each(state)));
     }
 }

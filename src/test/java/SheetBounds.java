@@ -2,6 +2,7 @@ import java.math.BigInteger;
 import java.util.ArrayList;
 import java.util.Collections;
 import java.util.List;
+import java.util.function.Supplier;
 
 /** The bounds that the document names for SHEETS, for FINDINGS and for the digest: promises 32 to 39. */
 final class SheetBounds extends Refused {
@@ -587,29 +588,34 @@ final class SheetBounds extends Refused {
     }
 
     /** Boards on which each of the terms is now this, now that. */
-    private static List<Bagatelle> boards() {
-        List<Bagatelle> boards = new ArrayList<>(List.of(new Bagatelle(), plain(), full(), OrderBounds.busy()));
+    private static List<Supplier<Bagatelle>> boards() {
+        List<Supplier<Bagatelle>> boards = new ArrayList<>();
+        boards.addAll(List.of(Bagatelle::new, Refused::plain, Refused::full, OrderBounds::busy));
         String[][] told = {{"04t;13l;15r;24b;33t;42r", "123454321", "a5;a5;b4;c6;e1;e9;x5"},
             {"73l;75r;44t", "987654321", "a4;a5;a6;d1;h2;m3;r4;w5"},
             {"00t;73r;75l", "909090909", TWELVE_ALIKE}, {"73l", "5", "a4;a5"}, {"00b;70r;72l", "", "a1"}};
         for (String[] board : told) {
             for (int room = 1; room <= 3; room++) {
-                Bagatelle x = told(board[0], board[1], board[2]);
-                x.room(room);
-                x.event(2, 9, 4);
-                x.event(1, 2, 0);
-                boards.add(x);
-                x.seen(room, room, 4, 12);
+                int v = room;
+                boards.add(() -> withRoom(told(board[0], board[1], board[2]), v));
             }
         }
         return boards;
     }
 
+    private static Bagatelle withRoom(Bagatelle x, int room) {
+        x.room(room);
+        x.event(2, 9, 4);
+        x.event(1, 2, 0);
+        x.seen(room, room, 4, 12);
+        return x;
+    }
+
     static void promise39AsLongsThatWrap() {
-        for (Bagatelle x : boards()) {
-            BigInteger h = digestOf(Digests.terms((name, args) -> Digests.call(x, name, args)));
+        for (Supplier<Bagatelle> board : boards()) {
+            BigInteger h = digestOf(Digests.terms(Digests.each(board)));
             dueTrue("it is beyond a long", h.bitLength() > 64);
-            due("digest", x.digest(), h.longValue());
+            due("digest", board.get().digest(), h.longValue());
         }
     }
 
