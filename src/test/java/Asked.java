@@ -7,7 +7,7 @@ import java.util.TreeSet;
 
 /** What the tests of the project share: how a board is told, what is due, how many answers were wrong. */
 class Asked {
-    static final int NONE = Bagatelle.NONE, BAD = Bagatelle.BAD, NOT = Bagatelle.NOT, FULL = Bagatelle.FULL;
+    static final int NONE = -1, BAD = -2, NOT = -3, FULL = -4;
     static final int NULL = -11, INDEX = -12, CAST = -13, STORE = -14, SIZE = -15;
     static final int LEAST = Integer.MIN_VALUE, MANY = Integer.MAX_VALUE;
     static final long LONG_BAD = Long.MIN_VALUE + 2;

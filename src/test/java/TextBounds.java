@@ -23,6 +23,13 @@ final class TextBounds extends Refused {
         due("nothing seen", x.forget(), 0);
     }
 
+    static void promise01Constants() {
+        due("NONE", Bagatelle.NONE, -1);
+        due("BAD", Bagatelle.BAD, -2);
+        due("NOT", Bagatelle.NOT, -3);
+        due("FULL", Bagatelle.FULL, -4);
+    }
+
     static void promise01RoomIs2() {
         Bagatelle x = told("", "1", "a1;b1;c1");
         due("room", x.count(5), 2);
