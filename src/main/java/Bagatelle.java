@@ -33,6 +33,10 @@ public final class Bagatelle {
     private static final int BYTES = 0, SHORTS = 1, FORMS = 3;
     private static final int NULL = 1, INDEX = 2, CAST = 3, STORE = 4, SIZE = 5;
 
+    /** Written out, as the library's own constants are not among what the language rules list. */
+    private static final int LEAST_INT = -2147483648;
+    private static final long LEAST_LONG = -9223372036854775808L;
+
     private final Text[] texts = new Text[TEXTS];
     private final int[] faults = new int[TEXTS];
     private final Board board = new Board();
@@ -383,7 +387,7 @@ public final class Bagatelle {
 
     public long chance(int c, int ball, int what) {
         if (!within(c, SIXTEENTHS + 1) || !within(ball, board.ballCount) || !within(what, 2)) {
-            return Long.MIN_VALUE - BAD; // the least long and 2 more
+            return LEAST_LONG - BAD; // the least long and 2 more
         }
         if (!bringersKnown) {
             findBringers();
@@ -459,12 +463,12 @@ public final class Bagatelle {
 
     public int get(int s, int form, int i) {
         if (!within(s, SHEETS) || !within(form, FORMS)) {
-            return Integer.MIN_VALUE;
+            return LEAST_INT;
         }
         int wrong = sheets[s].findingFor(form, i);
         if (wrong != 0) {
             finding = wrong;
-            return Integer.MIN_VALUE;
+            return LEAST_INT;
         }
         return sheets[s].items[i];
     }

@@ -8,7 +8,9 @@ import java.nio.file.Path;
 import java.util.ArrayList;
 import java.util.Arrays;
 import java.util.List;
+import java.util.Map;
 import java.util.Set;
+import java.util.TreeMap;
 import java.util.TreeSet;
 import java.util.regex.Matcher;
 import java.util.regex.Pattern;
@@ -23,7 +25,11 @@ public final class LanguageTest {
         "\\b(throw|throws|try|catch|finally|synchronized|assert|volatile|transient|native|strictfp|var|yield|package)\\b",
         "->", "::", "Exact\\b", "\\b(System\\.(?!arraycopy)|Thread|Runtime|Random|Object|Class|Scanner|Optional|Stream)\\b",
         "\\b(HashMap|Map|Set|HashSet|LinkedList|Deque|BigInteger|BigDecimal|Comparator|Collections)\\b",
-        "\\.(equals|hashCode|toString|format|valueOf|sort|getClass)\\b", "\"\\s*\\+|\\+\\s*\"", "@\\w+", "\\bstatic\\s*\\{"};
+        "\\.(equals|hashCode|toString|format|valueOf|sort|getClass)\\b", "\"\\s*\\+|\\+\\s*\"", "@\\w+", "\\bstatic\\s*\\{",
+        "\\b(Integer|Long|Math|Short|Byte|Character)\\.[A-Z]", "\\b(Short|Byte|Character|Double|Float|Boolean)\\b"};
+    private static final int MOST_DEEP = 8;
+    private static final Pattern OPENING = Pattern.compile(
+        "(    |        )(?:(?:public|private|static|final) )*(?:[\\w\\[\\]]+ )?(\\w+)\\([^)]*\\) \\{");
 
     private static int wrong = 0;
 
@@ -38,6 +44,7 @@ public final class LanguageTest {
         String source = Files.readString(Path.of(args[0]));
         lookAtText(source);
         lookAtMethods(source);
+        lookAtDepth(withoutComments(source));
         lookAtFace();
         List<Class<?>> classes = new ArrayList<>(Arrays.asList(Bagatelle.class.getDeclaredClasses()));
         rule(11, classes.size() <= 11, "more than twelve classes");
@@ -85,6 +92,45 @@ public final class LanguageTest {
                 start = -1;
             }
         }
+    }
+
+    /** Methods of like names count as one, so that a chain of calls is rather found too deep than too shallow. */
+    private static void lookAtDepth(String code) {
+        Map<String, String> bodies = new TreeMap<>();
+        String name = null;
+        String end = null;
+        for (String line : code.split("\n")) {
+            Matcher opening = OPENING.matcher(line);
+            if (name == null && opening.matches()) {
+                name = opening.group(2);
+                end = opening.group(1) + "}";
+            } else if (name != null && line.equals(end)) {
+                name = null;
+            } else if (name != null) {
+                bodies.merge(name, line, (above, below) -> above + "\n" + below);
+            }
+        }
+        rule(11, bodies.size() > 60, "the methods can't be found: " + bodies.keySet());
+        Map<String, Integer> depths = new TreeMap<>();
+        for (String each : bodies.keySet()) {
+            int depth = depth(each, bodies, depths, 0);
+            rule(11, depth <= MOST_DEEP, each + " goes " + depth + " deep");
+        }
+    }
+
+    private static int depth(String name, Map<String, String> bodies, Map<String, Integer> depths, int above) {
+        if (depths.containsKey(name) || above > 2 * MOST_DEEP) {
+            return depths.getOrDefault(name, 2 * MOST_DEEP);
+        }
+        int deepest = 0;
+        Matcher call = Pattern.compile("\\b(\\w+)\\(").matcher(bodies.get(name));
+        while (call.find()) {
+            if (bodies.containsKey(call.group(1))) {
+                deepest = Math.max(deepest, depth(call.group(1), bodies, depths, above + 1));
+            }
+        }
+        depths.put(name, deepest + 1);
+        return deepest + 1;
     }
 
     private static void lookAtFace() {
